@@ -116,6 +116,15 @@ public final class LawTextTest {
     private static void words() {
         Due.lawFault("Heirs all;", 1, 0);
         Due.lawFault("heirsX all;", 1, 0);
+        Due.lawFault("heirsA all;", 1, 0);
+        Due.lawFault("heirsZ all;", 1, 0);
+        Due.lawFault("heirsa all;", 1, 0);
+        Due.lawFault("heirsz all;", 1, 0);
+        Due.lawFault("heirs@all;", 1, 5);
+        Due.lawFault("heirs[all;", 1, 5);
+        Due.lawFault("heirs`all;", 1, 5);
+        Due.lawFault("heirs{all;", 1, 5);
+        Due.lawFault("writ 1:", 1, 6);
         Due.lawFault("heir all;", 1, 0);
         Due.lawFault("heirs elder;", 1, 6);
         Due.lawFault("heirs knight;", 1, 6);
@@ -178,6 +187,19 @@ public final class LawTextTest {
         Due.lawFault(thirty + "eldest", 1, 210);
         Due.lawFault(thirty + ";", 1, 210);
         Due.lawFault("writ 1;".repeat(29) + "writ 10000;writ 1;", 2, 208);
+        Due.lawFault("1".repeat(800), 1, 0);
+        Due.lawFault("x".repeat(800), 1, 0);
+        Due.lawFault("relief" + "(".repeat(794), 3, 14);
+        Due.lawFault("relief " + "1+".repeat(396) + "1", 1, 800);
+        // what was cut off does not count
+        Due.tape(x, "writ 123456;");
+        x.end(10);
+        Due.is("cut off", x.reads(0), -1);
+        Due.is("cut off: fault(0)", x.fault(0), 2);
+        Due.tape(x, "writ 1;all");
+        x.end(8);
+        Due.is("cut off", x.reads(0), -1);
+        Due.is("cut off: fault(1)", x.fault(1), 7);
         Due.is("800 bytes", Due.law(x, 0, "relief 1" + "+1".repeat(395) + " ;"), 1);
         Due.is("many open one behind the other", Due.law(x, 0, "relief (1)" + "+(1)".repeat(190) + ";"), 1);
     }
@@ -195,6 +217,8 @@ public final class LawTextTest {
         Due.lawFault("relief 1/(2);", 1, 9);
         Due.lawFault("relief 1/;", 1, 9);
         Due.lawFault("relief lord;", 1, 7);
+        Due.lawFault("relief eldest;", 1, 7);
+        Due.lawFault("relief king;", 1, 7);
         Due.lawFault("relief 1<2;", 1, 8);
         Due.lawFault("relief not 1<2;", 1, 7);
         Due.lawFault("relief 1 and 2;", 1, 9);
