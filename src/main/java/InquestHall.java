@@ -813,11 +813,11 @@ public final class InquestHall {
             at = 0;
             fault = 0;
             faultPlace = NONE;
+            int last = NONE;
             for (int i = 0; i < length; i++) {
-                if (bytes[i] != ' ' && bytes[i] != '\n') {
-                    int last = lastTogether(i);
+                if (i > last && bytes[i] != ' ' && bytes[i] != '\n') {
+                    last = lastTogether(i);
                     addToken(kindOf(i, last), numberOf(i, last), i);
-                    i = last;
                 }
             }
             addToken(END, 0, length);

@@ -84,7 +84,10 @@ public final class ModelTest {
 
     private void begin() {
         days(5000 + up(5000));
-        law(0);
+        tape("ward knight until " + up(41) + oneOf("", " maid " + up(41)) + " to " + oneOf("lord", "kin") + ";ward socage until "
+            + up(41) + " to kin;" + (up(3) == 0 ? "heirs all;" : "") + "traverse " + up(900) + ";" + lawLine() + ";");
+        same("reads(0)", hall.reads(0), slow.reads(0));
+        faults();
         int many = 4 + up(29);
         for (int p = 0; p < many; p++) {
             person(p);
@@ -97,6 +100,9 @@ public final class ModelTest {
             event(e, up(now));
         }
         days(1000 + up(3000));
+        for (int n = 0; n < 6; n++) {
+            marry(parent(0), parent(1));
+        }
         int deaths = up(persons);
         for (int n = 0; n < deaths; n++) {
             dies();
@@ -360,8 +366,9 @@ public final class ModelTest {
         int l = someLand();
         same("heirs(" + p + ", " + l + ")", hall.heirs(p, l), slow.heirs(p, l));
         int q = someone();
-        for (int n = 0; n < 12 && up(6) != 0 && slow.share(p, l, q, 0) == 0; n++) {
-            q = someone();
+        int from = up(Math.max(1, persons));
+        for (int n = 0; n < persons && up(50) != 0 && slow.share(p, l, q, 0) == 0; n++) {
+            q = (from + n) % persons;
         }
         int what = what(6);
         same("share(" + p + ", " + l + ", " + q + ", " + what + ")", hall.share(p, l, q, what), slow.share(p, l, q, what));
@@ -373,8 +380,15 @@ public final class ModelTest {
     private void dower() {
         int p = someDead();
         int l = someLand();
+        if (up(2) == 0) {
+            marry(p, parent(1));
+        }
         int what = what(4);
         same("dower(" + p + ", " + l + ", " + what + ")", hall.dower(p, l, what), slow.dower(p, l, what));
+    }
+
+    private void marry(int p, int q) {
+        same("marry(" + p + ", " + q + ")", bit(hall.marry(p, q)), slow.marry(p, q));
     }
 
     private void seize() {
@@ -395,7 +409,7 @@ public final class ModelTest {
         same("seizing(" + e + ", " + what + ")", hall.seizing(e, what), slow.seizing(e, what));
         int l = someLand();
         int day = someDay();
-        int known = rarely() ? wild() : Math.max(0, now - up(500));
+        int known = rarely() ? wild() : Math.max(0, now - up(2) * up(500));
         same("holder(" + l + ", " + day + ", " + known + ")", hall.holder(l, day, known), slow.holder(l, day, known));
     }
 
@@ -446,7 +460,7 @@ public final class ModelTest {
             estate();
         } else if (n < 45) {
             dies();
-        } else if (n < 50) {
+        } else if (n < 48) {
             dower();
         } else if (n < 55) {
             seize();
@@ -470,7 +484,7 @@ public final class ModelTest {
         int q = someoneOrNone();
         int e = rarely() ? wild() : up(Math.max(1, told));
         if (n < 83) {
-            same("marry(" + p + ", " + q + ")", bit(hall.marry(p, q)), slow.marry(p, q));
+            marry(p, q);
         } else if (n < 86) {
             born();
         } else if (n < 88) {
