@@ -4,7 +4,8 @@ import java.util.Random;
 /** Long runs of calls, drawn from fixed seeds, on InquestHall and on SlowHall: every answer must be the same. */
 public final class ModelTest {
     private static final int RUNS = 500;
-    private static final int CALLS = 512;
+    /* An object is good for 512 calls; a text told with all that is asked of it takes 52 of them. */
+    private static final int CALLS = 512 - 52;
     private static final String[] WORDS = ("worth acres shire service age heirs share eldest youngest all knight socage "
         + "serjeanty lord king kin ward dower writ traverse relief in until maid to of when or and not before after days "
         + "years at off ; ; + - * / ( ) < = > 0 1 3 7 40 41 100000 soon . x").split(" ");
