@@ -7,6 +7,7 @@ public final class RefusedTest {
     private static final int MIN = Integer.MIN_VALUE;
 
     public static void main(String[] args) {
+        newObject();
         days();
         person();
         births();
@@ -18,6 +19,7 @@ public final class RefusedTest {
         reign();
         tape();
         texts();
+        faults();
         seize();
         traverse();
         events();
@@ -25,6 +27,35 @@ public final class RefusedTest {
         juries();
         asking();
         Due.end();
+    }
+
+    /** Promise 1, "REIGN 0 from DAY 0 on, nobody.": on DAY 0, and nothing that could be asked for. */
+    private static void newObject() {
+        InquestHall x = new InquestHall();
+        for (int what = 0; what < 6; what++) {
+            Due.is("of", x.of(0, what), -1);
+            Due.is("landOf", x.landOf(0, what), -1);
+            Due.is("share", x.share(0, 0, 0, what), -1);
+            Due.is("ward", x.ward(0, 0, 0, what), -2);
+            Due.is("seizing", x.seizing(0, what), -2);
+            Due.is("proof", x.proof(0, what), -1);
+            Due.is("dower", x.dower(0, 0, what), -1);
+        }
+        Due.is("heirs", x.heirs(0, 0), -1);
+        Due.is("relief", x.relief(0, 0, 0), -1);
+        Due.is("holder", x.holder(0, 0, 0), -3);
+        Due.is("traverse", x.traverse(0), -1);
+        Due.is("chain", x.chain(0, 0), -2);
+        Due.is("FEWEST", x.quarrel(1), 0);
+        Due.is("REIGN 0 on the first DAY", x.lawOn(0, 0), 0);
+        Due.is("REIGN 0 on the last DAY", x.lawOn(29999, 0), 0);
+        Due.no("none else", x.reads(1) != -1);
+        Due.no("the TAPE is empty", x.end(1));
+        Due.is("BORN on DAY 1", x.person(0, -1, -1, 0, 1), -1);
+        Due.is("BORN on DAY 0", x.person(0, -1, -1, 0, 0), 0);
+        Due.is("no EVENT", Due.memories(x, 0, "before 0;"), -1);
+        Due.is("its FAULT", x.fault(0), 2);
+        Due.is("a DAY goes by", x.days(1), 1);
     }
 
     /** Promise 2: 1 .. 9999; DAYS end with 29999. */
@@ -269,6 +300,31 @@ public final class RefusedTest {
         World.takes("find(9, 1, 0)", x -> x.find(9, 1, 0));
         World.takes("find(0, 0, -1)", x -> x.find(0, 0, -1));
         World.takes("unsay(1, 0)", x -> x.unsay(1, 0));
+    }
+
+    /** Promise 15, "Of the latest reads(), memories() (of a REIGN, a person that there is)": either in place of the other. */
+    private static void faults() {
+        InquestHall x = World.made();
+        x.end(0);
+        Due.is("a FAULT of a LAW", Due.law(x, 0, "heirs all in 4;"), -1);
+        fault(x, 2, 13);
+        Due.is("one of MEMORIES", Due.memories(x, 2, "before"), -1);
+        fault(x, 1, 6);
+        Due.is("none such", Due.law(x, 2, "heirs all in 4;"), -1);
+        Due.is("none such", Due.memories(x, 5, "after 0;"), -1);
+        fault(x, 1, 6);
+        Due.is("good MEMORIES", Due.memories(x, 2, "after 0;"), 1);
+        fault(x, 0, -1);
+        Due.is("one too many", Due.memories(x, 2, "after 0;".repeat(22)), -1);
+        fault(x, 3, 168);
+        Due.is("a good LAW", Due.law(x, 1, ""), 0);
+        fault(x, 0, -1);
+    }
+
+    private static void fault(InquestHall x, int what, int place) {
+        Due.is("fault(0)", x.fault(0), what);
+        Due.is("fault(1)", x.fault(1), place);
+        Due.is("fault(2)", x.fault(2), -1);
     }
 
     /** What is only asked changes nothing, however it is asked. */
