@@ -66,6 +66,15 @@ public final class DowerEdgesTest {
         dower(hall("dower 1 of 1;", 99, 99, 99, 99, 99, 99), 594, 63, 594, 50);
         dower(hall("dower 99999 of 99999;", 0, 1, 0, 1, 0, 0), 2, 10, 2, 20);
         dower(hall("dower 7 of 7;", 0, 0, 0, 0, 0, 9), 9, 32, 9, 0);
+        // all but one, each in its turn, that has no WORTH, or just what is not due
+        for (int a = 0; a < 6; a++) {
+            InquestHall x = hall("dower 1 of 1;", 9, 9, 9, 9, 9, 9);
+            x.acre(0, a, 0, 10 * a);
+            dower(x, 45, 63 - (1 << a), 45, a == 0 || a == 5 ? 40 : 50);
+            InquestHall y = hall("dower 5 of 6;", 12, 12, 12, 12, 12, 12);
+            y.acre(0, a, 11, 10 * a);
+            dower(y, 60, 63 - (1 << a), 60, a == 0 || a == 5 ? 40 : 50);
+        }
     }
 
     /** "the set of ACRES with that WORTH at least: the least WORTH", the WORTH ahead of the spread. */

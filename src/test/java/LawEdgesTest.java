@@ -15,6 +15,7 @@ public final class LawEdgesTest {
         lines();
         openOnes();
         theFirstByItsPlace();
+        afterAFault();
         atOnePlaceTheLeast();
         laterOnes();
         aheadOfItsLines();
@@ -291,6 +292,24 @@ public final class LawEdgesTest {
         Due.lawFault("ward knight until 41 maid 99 to soon", 2, 18);
         Due.lawFault("writ 1;".repeat(29) + "writ 10000;" + "writ 1;", 2, 208);
         Due.lawFault("writ 1;".repeat(15) + "relief ((((((((((1));" + "writ 1;".repeat(15), 3, 120);
+    }
+
+    /** What was open when a TEXT came to its FAULT is not open in the next one, on the same object. */
+    private static void afterAFault() {
+        InquestHall x = Due.hallOn(100);
+        x.person(0, -1, -1, 0, 0);
+        x.person(0, 0, -1, 0, 0);
+        x.land(0, 0, -1);
+        x.dies(0, 100);
+        String[] wrong = {"relief ((((((((1+2*", "relief (((((((((1", "king when not not not not not not not not 1<2 not",
+            "relief 1 when not not 1<((((((2", "relief ((((((((", "heirs", "dower 2 of 1;", "king when not 1+2*3"};
+        for (int n = 0; n < 24; n++) {
+            Due.is("a FAULT", Due.law(x, 0, wrong[n % wrong.length]), -1);
+            if (n % 3 == 0) {
+                Due.is("8 open", Due.law(x, 0, "relief ((((((((2))))))))*(3+4)when not not not not not not not not 1<2;"), 1);
+                Due.is("its relief", x.relief(0, 0, 1), 14);
+            }
+        }
     }
 
     /** "at one place the least": what can't stand there is 1, were it one too many besides. */
